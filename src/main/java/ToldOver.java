@@ -109,7 +109,7 @@ public final class ToldOver {
         }
         chain.begin(word);
         chain.hand(speech, way, crew.kinds[x], crew.tired[x]);
-        return (int) chain.times(to, speech.words);
+        return (int) chain.timesAs(to, speech.words);
     }
 
     public int returns(int x, int way, int word) {
@@ -143,7 +143,7 @@ public final class ToldOver {
             chain.hand(speech, next, crew.kinds[x], crew.tired[x]);
             next = otherWay(next);
         }
-        return inLeastTerms(chain.times(to, speech.words), chain.whole, which);
+        return inLeastTerms(chain.timesAs(to, speech.words), chain.whole, which);
     }
 
     // ---- 3 the witness
@@ -904,7 +904,7 @@ public final class ToldOver {
         long whole;
         private long[] now = new long[MOST_WORDS];
         private long[] next = new long[MOST_WORDS];
-        private final int[] times = new int[MOST_WORDS];
+        private final int[] carried = new int[MOST_WORDS];
 
         void begin(int word) {
             whole = 1;
@@ -915,9 +915,9 @@ public final class ToldOver {
         void hand(Tongues speech, int way, int kind, int tired) {
             Arrays.fill(next, 0);
             for (int word = 0; word < speech.words; word++) {
-                speech.carry(times, way, word, kind, tired);
+                speech.carry(carried, way, word, kind, tired);
                 for (int to = 0; to < speech.words; to++) {
-                    next[to] += now[word] * times[to];
+                    next[to] += now[word] * carried[to];
                 }
             }
             long[] spare = now;
@@ -926,7 +926,7 @@ public final class ToldOver {
             whole *= GROSS;
         }
 
-        long times(int to, int words) {
+        long timesAs(int to, int words) {
             if (to < words) {
                 return now[to];
             }
@@ -1058,7 +1058,7 @@ public final class ToldOver {
             Arrays.fill(now, NEVER);
             now[stateOf(first, second, 0)] = 0;
             for (int minute = 0; minute < minutes; minute++) {
-                workMinute(minute == 0 ? 0 : change, 1L << minutes - 1 - minute);
+                workMinute(minute == 0 ? 0 : change, 1L << (minutes - 1 - minute));
             }
             planned = NEVER;
             for (int state = 0; state < STATES; state++) {
@@ -1072,7 +1072,7 @@ public final class ToldOver {
         }
 
         int worker(int minute, int minutes) {
-            return (int) (planned >> minutes - 1 - minute & 1);
+            return (int) (planned >> (minutes - 1 - minute) & 1);
         }
 
         private void workMinute(int change, long bit) {

@@ -54,14 +54,13 @@ public final class TurnsTest {
         x.turn(0, 0, 0, 5, 3);
         x.turn(0, 1, 0, 9, 9);
         x.turn(1, 1, 1, 0, 1);
-        // By the TRAINED one 1 is heard from 1 in 108 * 108 * 90 of 144ths, from 0 in 18 * 81 * 18.
-        int[][] parts = {{0, 0, 0, 5, 3, 736}, {0, 1, 0, 9, 9, 400}, {1, 1, 1, 0, 1, 980}};
-        for (int t = 0; t < 2; t++) {
+        // By the TRAINED one 99 * 108 * 90 times he had said 1, 9 * 108 * 18 times 0.
+        int[][] parts = {{0, 0, 0, 5, 3, 736}, {0, 1, 0, 9, 9, 400}, {1, 1, 1, 0, 1, 982}};
+        for (int t = 0; t < 3; t++) {
             for (int what = 0; what < 6; what++) {
                 check.due("ofTurn " + t + what, x.ofTurn(t, what), parts[t][what]);
             }
         }
-        check.due("who", x.ofTurn(2, 0), 1);
         check.due("truth in thousandths of said", x.ofTurn(2, 5),
                 1000 * x.said(1, 1, 1, 0) / x.said(1, 1, 1, 1));
         x.tire(0, 9);
@@ -124,6 +123,7 @@ public final class TurnsTest {
         // Six of 2/5 each: 3/5 to the 6th, and all but 2/5 to the 6th.
         check.share("six by 1", x.wrong(1, 0), x.wrong(1, 1), 729, 15625);
         check.share("six by 6", x.wrong(6, 0), x.wrong(6, 1), 15561, 15625);
+        check.share("six by 7", x.wrong(7, 0), x.wrong(7, 1), 1, 1);
         x.back(6);
         for (int t = 0; t < 6; t++) {
             x.turn(0, 0, 0, 1, 1);
@@ -157,5 +157,9 @@ public final class TurnsTest {
         x.turn(0, 0, 0, 5, 4);
         x.turn(0, 0, 0, 5, 3);
         check.due("of several the fewest minutes", x.again(4), 2);
+        x.back(2);
+        x.turn(0, 0, 0, 5, 1);
+        x.turn(0, 1, 0, 3, 1);
+        check.due("what lacks to 1000 counts, not the stake alone", x.again(1), 2);
     }
 }
