@@ -18,7 +18,11 @@ public final class TermEdgesTest {
         again();
         shiftsAtMostAndAtLeast();
         shiftsOfManyMinutes();
+        shiftsOneAfterAnother();
         booth();
+        boothsOneAfterAnother();
+        sixWords();
+        twoWordsBehindSix();
         cutToSort();
         trace();
         bodies();
@@ -373,6 +377,24 @@ public final class TermEdgesTest {
         }
     }
 
+    /** Nothing of what was asked ahead is answered again, where one number alone is another one. */
+    private static void shiftsOneAfterAnother() {
+        check.part("6, SHIFTS: one after another");
+        ToldOver x = crew(SAME, 0, 0, 0, 0, 0, 1, 0, 5);
+        check.due("0 and 0 for 2 by 9", x.shifts(0, 1, 2, 9, -1), 1);
+        check.due("0 and 1 for 2 by 0", x.shifts(0, 2, 2, 0, -1), 0);
+        check.due("0 and 0 for 2 by 1", x.shifts(0, 1, 2, 1, -1), 1);
+        check.due("1 and 0 for 2 by 0", x.shifts(2, 0, 2, 0, 0), 1);
+        check.due("0 and 1 for 2 by 0", x.shifts(0, 2, 2, 0, 0), 0);
+        x.tire(0, 5);
+        check.due("5 and 5 for 1 by 1", x.shifts(0, 3, 1, 1, -1), 5);
+        check.due("5 and 5 for 2 by 0", x.shifts(0, 3, 2, 0, -1), 9);
+        check.due("5 and 5 for 40 by 0, the last", x.shifts(0, 3, 40, 0, 39), 1);
+        check.due("5 and 5 for 1 by 1", x.shifts(0, 3, 1, 1, -1), 5);
+        check.due("5 and 5 for 1 by 1, the last", x.shifts(0, 3, 1, 1, 0), 0);
+        check.due("no second MINUTE", x.shifts(0, 3, 1, 1, 1), ToldOver.UNKNOWN);
+    }
+
     private static void booth() {
         check.part("6, a BOOTH: 1 to 9 cells");
         words(0, 0, 0, 0);
@@ -403,6 +425,72 @@ public final class TermEdgesTest {
         check.due("HELD", x.booth(0, 2, 0, cells.length, 1), held);
         check.due("BEHIND", x.booth(0, 2, 0, cells.length, 2), behind);
         check.due("fault", x.fault(), 0);
+    }
+
+    private static void boothsOneAfterAnother() {
+        check.part("6, a BOOTH: one after another");
+        ToldOver x = new ToldOver();
+        Check.row(x, 0, 1, 8, 7, 6, 5, 4, 3, 2, 1, 0, 0, 1, 2, 1, 0);
+        int[][] due = {{16, 8, 16}, {0, 0, 0}, {16, 8, 16}, {2, 0, 0}, {2, 1, 2}, {0, 0, 0}};
+        int[][] rows = {{0, 9}, {8, 1}, {0, 9}, {9, 3}, {12, 2}, {9, 1}};
+        for (int k = 0; k < 18; k++) {
+            int[] row = rows[k / 3];
+            check.due("BOOTH " + k / 3 + ", " + k % 3, x.booth(0, 1, row[0], row[1], k % 3), due[k / 3][k % 3]);
+        }
+    }
+
+    /** As many WORDS as there may be, each of which is said by nine of twelve. */
+    private static void sixWords() {
+        check.part("2 to 5, six WORDS");
+        String lines = ";900000;090000;009000;000900;000090;000009";
+        ToldOver x = crew("w6" + lines + ";b" + lines, 0, 0);
+        check.due("WITNESS", Check.witness(x, "v" + lines + ";p0"), 1);
+        for (int word = 0; word < 6; word++) {
+            check.share("heard", x.heard(0, word, word, 0), x.heard(0, word, word, 1), 27, 64);
+            check.share("nothing", x.heard(0, word, 6, 0), x.heard(0, word, 6, 1), 37, 64);
+            check.share("reached", x.reached(0, word, word, 0), x.reached(0, word, word, 1), 1, 1);
+            check.share("said", x.said(0, word, word, 0), x.said(0, word, word, 1), 1, 1);
+            check.share("over", x.over(0, word, 0), x.over(0, word, 1), 27, 64);
+            check.due("heard as another one", x.heard(0, word, 5 - word, 0), 0);
+            check.due("ask", x.ask(0, 64 - (1 << word)), word);
+            check.due("turn", x.turn(0, word, word, 0, 1), word);
+            check.due("TRUTH", x.ofTurn(word, 5), 1000);
+            check.due("returns", x.returns(0, 1, word), word);
+            check.due("carries", x.carries(0, 1, word, word), 108);
+            check.due("LEFT OUT", x.carries(0, 0, word, 6), 36);
+            check.due("answers", x.answers(word, word), 108);
+            check.due("SILENT", x.answers(word, 6), 36);
+        }
+        Check.row(x, 0, 0, 0, 0);
+        check.share("by two", x.hands(0, 5, 5, 0, 0, 0, 2, 0), x.hands(0, 5, 5, 0, 0, 0, 2, 1), 9, 16);
+        check.share("LEFT OUT", x.hands(1, 5, 6, 0, 0, 0, 2, 0), x.hands(1, 5, 6, 0, 0, 0, 2, 1), 7, 16);
+        check.due("a seventh", x.heard(0, 6, 0, 0), ToldOver.LOST);
+        check.due("beyond nothing", x.heard(0, 0, 7, 0), ToldOver.LOST);
+        check.due("a seventh", x.reached(0, 0, 6, 0), ToldOver.LOST);
+    }
+
+    /** Nothing of the four WORDS that are gone is left. */
+    private static void twoWordsBehindSix() {
+        check.part("1 to 5, two WORDS behind six");
+        ToldOver x = crew(six("222222"), 0, 0);
+        Check.witness(x, "v" + ";222222".repeat(6) + ";p9");
+        check.share("heard", x.heard(0, 5, 5, 0), x.heard(0, 5, 5, 1), 1, 6);
+        check.due("returns", x.returns(0, 0, 5), 0);
+        Check.tongues(x, "w2;10;01;b;10;01");
+        check.due("no WITNESS", x.answers(1, 1), ToldOver.STATE);
+        Check.witness(x, "v;10;01;p0");
+        check.share("heard", x.heard(0, 1, 1, 0), x.heard(0, 1, 1, 1), 1, 1728);
+        check.share("nothing", x.heard(0, 1, 2, 0), x.heard(0, 1, 2, 1), 1727, 1728);
+        check.share("over", x.over(0, 1, 0), x.over(0, 1, 1), 1, 1728);
+        check.share("reached", x.reached(0, 1, 1, 0), x.reached(0, 1, 1, 1), 1, 1);
+        check.share("said", x.said(0, 1, 1, 0), x.said(0, 1, 1, 1), 1, 1);
+        check.due("SILENT", x.answers(1, 2), 132);
+        check.due("LEFT OUT", x.becomes(1, 1, 2), 11);
+        check.due("LEFT OUT", x.carries(0, 1, 1, 2), 132);
+        check.due("returns", x.returns(0, 0, 1), 1);
+        check.due("alike", x.alike(0, 0), 0);
+        check.due("no third", x.becomes(0, 2, 0), ToldOver.UNKNOWN);
+        check.due("beyond LEFT OUT", x.becomes(0, 0, 3), ToldOver.UNKNOWN);
     }
 
     private static void cutToSort() {

@@ -298,31 +298,31 @@ public final class TextEdgesTest {
     /** The last digit decides: with it all is made anew, without it nothing is changed. */
     private static void takenOrNot() {
         check.part("1 and 3, taken or not");
-        String other = "w2;10;01;b;10;00";
+        notTaken("tongues", "w2;10;01;b;10;00", -115);
         ToldOver x = Court.open(Court.Kind.WHOLE);
-        Check.write(x, 3, 1, other);
-        java.util.List<Long> before = Court.seen(x);
-        check.due("not taken", x.tongues(3, 1, 0, 16), -115);
-        check.holds("nothing is changed", Court.seen(x).equals(before));
-        x.put(3, 15, '1');
-        check.due("taken", x.tongues(3, 1, 0, 16), 2);
-        int[] many = {2, 3, 0, 0, 0};
-        for (int what = 0; what < 5; what++) {
-            check.due("many " + what, x.many(what), many[what]);
-        }
+        check.due("taken", Check.tongues(x, "w2;10;01;b;10;01"), 2);
+        many(x, 2, 3, 0, 0, 0);
         check.due("TRACE stays", x.trace(), 63);
         check.due("SHEETS stay", x.cell(0, 27, 0), '1');
         check.due("how TIRED stays", x.ofInterpreter(2, 1), 9);
+        notTaken("witness", "v;100;010;001;p", -115);
         x = Court.open(Court.Kind.WHOLE);
-        Check.write(x, 3, 1, "v;100;010;001;p");
-        before = Court.seen(x);
-        check.due("not taken", x.witness(3, 1, 0, 15), -115);
-        check.holds("nothing is changed", Court.seen(x).equals(before));
-        Check.write(x, 3, 1, "v;100;010;001;p0");
-        check.due("taken", x.witness(3, 1, 0, 16), 1);
-        int[] then = {3, 3, 1, 0, 0};
-        for (int what = 0; what < 5; what++) {
-            check.due("many " + what, x.many(what), then[what]);
+        check.due("taken", Check.witness(x, "v;100;010;001;p0"), 1);
+        many(x, 3, 3, 1, 0, 0);
+    }
+
+    private static void notTaken(String name, String text, int due) {
+        ToldOver same = Court.open(Court.Kind.WHOLE);
+        Check.write(same, 3, 1, text);
+        ToldOver x = Court.open(Court.Kind.WHOLE);
+        Check.write(x, 3, 1, text);
+        check.due("not taken", Court.call(x, name, 3, 1, 0, text.length()), due);
+        check.holds("nothing is changed", Court.seen(x).equals(Court.seen(same)));
+    }
+
+    private static void many(ToldOver x, int... due) {
+        for (int what = 0; what < due.length; what++) {
+            check.due("many " + what, x.many(what), due[what]);
         }
     }
 }
