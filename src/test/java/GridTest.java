@@ -7,7 +7,7 @@ import java.util.List;
  */
 public final class GridTest {
     private static final int USED_FOR = 512, MIN = Integer.MIN_VALUE, MAX = Integer.MAX_VALUE;
-    private static final String TONGUES = "w2;75;39;b;84;48", WITNESS = "v;63;07;p2";
+    private static final String TONGUES = "w2;74;39;b;84;35", WITNESS = "v;63;07;p2";
     private static final int[] MANY = {MIN, -2, -1, 0, 1, 2, 3, 4, 5, 6, 7, 8, 9, 10, 59, 60, 61, 119, 120, 121, MAX};
     private static final int[] SOME = {MIN, -2, -1, 0, 1, 2, 3, 4, 9, 10, 40, 41, MAX};
     private static final int[] FEW = {-1, 0, 1, 2, 3, 4, 9, 10, MAX};
